@@ -1,0 +1,341 @@
+import java.util.Arrays;
+import java.util.Random;
+
+/** Random runs of calls, each answered by the program as by the Model. */
+public final class RandomRunsTest {
+    private static final int RUNS = 4000;
+    private static final int CALLS = 512;
+    private static final String[] NAMES = {"row", "set", "copy", "element", "show", "holds", "says",
+        "read", "fault", "make", "wouldBe", "value", "method", "remove", "objectOf", "order",
+        "distance", "where", "hidden", "slotOf", "send", "given", "trial", "way", "wayOf",
+        "applies", "tie", "call", "trace", "judge", "days", "seed", "image", "restore", "status"};
+    private static final int[] WEIGHTS = {2, 4, 3, 2, 3, 2, 4, 2, 1, 8, 4, 6, 14, 3, 5, 3, 3, 4, 4, 4,
+        14, 3, 8, 14, 3, 6, 4, 14, 4, 4, 3, 1, 1, 1, 4};
+    private static final int[] ODD = {-1, -2, Integer.MIN_VALUE, Integer.MAX_VALUE, -100, 100, 16, 8, 4};
+
+    private final Random random;
+    private final ProtoOrders program = new ProtoOrders();
+    private final Model model = new Model();
+    private final int run;
+    private final boolean daring;
+    private int calls = 0;
+
+    private RandomRunsTest(int run) {
+        this.run = run;
+        random = new Random(run * 7919L + 17);
+        daring = random.nextInt(3) == 0;
+    }
+
+    private long onProgram(String name, int[] a, long v) {
+        ProtoOrders x = program;
+        switch (name) {
+            case "row": return x.row(a[0], a[1], a[2]);
+            case "set": return x.set(a[0], a[1], v);
+            case "copy": return x.copy(a[0], a[1], a[2], a[3], a[4]);
+            case "element": return x.element(a[0], a[1]);
+            case "show": return x.show(a[0], a[1]);
+            case "holds": return x.holds(a[0]);
+            case "says": return x.says(a[0], a[1]);
+            case "read": return x.read(a[0]);
+            case "fault": return x.fault();
+            case "make": return x.make(a[0], a[1], a[2], a[3], a[4]);
+            case "wouldBe": return x.wouldBe(a[0], a[1], a[2], a[3], a[4]);
+            case "value": return x.value(a[0], a[1], a[2]);
+            case "method": return x.method(a[0], a[1], a[2], a[3]);
+            case "remove": return x.remove(a[0], a[1]);
+            case "objectOf": return x.objectOf(a[0], a[1]);
+            case "order": return x.order(a[0], a[1]);
+            case "distance": return x.distance(a[0], a[1]);
+            case "where": return x.where(a[0], a[1]);
+            case "hidden": return x.hidden(a[0], a[1]);
+            case "slotOf": return x.slotOf(a[0], a[1], a[2]);
+            case "send": return x.send(a[0], a[1], a[2]);
+            case "given": return x.given();
+            case "trial": return x.trial(a[0], a[1], a[2], a[3]);
+            case "way": return x.way(a[0], a[1], a[2], a[3], a[4], a[5]);
+            case "wayOf": return x.wayOf(a[0], a[1]);
+            case "applies": return x.applies(a[0], a[1], a[2], a[3], a[4]);
+            case "tie": return x.tie(a[0], a[1], a[2]);
+            case "call": return x.call(a[0], a[1], a[2], a[3]);
+            case "trace": return x.trace(a[0]);
+            case "judge": return x.judge(a[0], a[1], a[2], a[3]);
+            case "days": return x.days(a[0]);
+            case "seed": return x.seed(a[0]);
+            case "image": return x.image();
+            case "restore": return x.restore();
+            default: return x.status(a[0]);
+        }
+    }
+
+    private long onModel(String name, int[] a, long v) {
+        Model x = model;
+        switch (name) {
+            case "row": return x.row(a[0], a[1], a[2]);
+            case "set": return x.set(a[0], a[1], v);
+            case "copy": return x.copy(a[0], a[1], a[2], a[3], a[4]);
+            case "element": return x.element(a[0], a[1]);
+            case "show": return x.show(a[0], a[1]);
+            case "holds": return x.holds(a[0]);
+            case "says": return x.says(a[0], a[1]);
+            case "read": return x.read(a[0]);
+            case "fault": return x.fault();
+            case "make": return x.make(a[0], a[1], a[2], a[3], a[4]);
+            case "wouldBe": return x.wouldBe(a[0], a[1], a[2], a[3], a[4]);
+            case "value": return x.value(a[0], a[1], a[2]);
+            case "method": return x.method(a[0], a[1], a[2], a[3]);
+            case "remove": return x.remove(a[0], a[1]);
+            case "objectOf": return x.objectOf(a[0], a[1]);
+            case "order": return x.order(a[0], a[1]);
+            case "distance": return x.distance(a[0], a[1]);
+            case "where": return x.where(a[0], a[1]);
+            case "hidden": return x.hidden(a[0], a[1]);
+            case "slotOf": return x.slotOf(a[0], a[1], a[2]);
+            case "send": return x.send(a[0], a[1], a[2]);
+            case "given": return x.given();
+            case "trial": return x.trial(a[0], a[1], a[2], a[3]);
+            case "way": return x.way(a[0], a[1], a[2], a[3], a[4], a[5]);
+            case "wayOf": return x.wayOf(a[0], a[1]);
+            case "applies": return x.applies(a[0], a[1], a[2], a[3], a[4]);
+            case "tie": return x.tie(a[0], a[1], a[2]);
+            case "call": return x.call(a[0], a[1], a[2], a[3]);
+            case "trace": return x.trace(a[0]);
+            case "judge": return x.judge(a[0], a[1], a[2], a[3]);
+            case "days": return x.days(a[0]);
+            case "seed": return x.seed(a[0]);
+            case "image": return x.image();
+            case "restore": return x.restore();
+            default: return x.status(a[0]);
+        }
+    }
+
+    private long both(String name, long v, int... a) {
+        calls++;
+        long want = onModel(name, a, v);
+        long got;
+        String call = "run " + run + ", call " + calls + ": " + name + Arrays.toString(a) + " " + v;
+        try {
+            got = onProgram(name, a, v);
+        } catch (RuntimeException e) {
+            System.out.println(call + " threw " + e);
+            got = want + 1;
+        }
+        Due.due(call, got, want);
+        return want;
+    }
+
+    /** Mostly a number from 0 on below n, now and then another. */
+    private int some(int n) {
+        if (n < 1 || random.nextInt(40) == 0) {
+            return random.nextInt(3) == 0 ? n : ODD[random.nextInt(ODD.length)];
+        }
+        return random.nextInt(n);
+    }
+
+    private int object() {
+        return some(model.status(0));
+    }
+
+    private int k() {
+        if (random.nextInt(50) == 0) {
+            return random.nextBoolean() ? -100 + 200 * random.nextInt(2) : random.nextInt();
+        }
+        return random.nextInt(4) == 0 ? random.nextInt(199) - 99 : random.nextInt(6);
+    }
+
+    private int x() {
+        switch (random.nextInt(8)) {
+            case 0: return random.nextInt();
+            case 1: return random.nextInt(199) - 99;
+            default: return random.nextInt(8);
+        }
+    }
+
+    /** SLOTS that are told and sent to are few, so that they meet. */
+    private int slot() {
+        return random.nextInt(6) == 0 ? some(16) : random.nextInt(4);
+    }
+
+    private int index(int n) {
+        return random.nextInt(4) == 0 ? -1 : some(n);
+    }
+
+    private int[] arguments(String name) {
+        int objects = model.status(0);
+        switch (name) {
+            case "row": return new int[] {some(8), some(4), random.nextInt(6) == 0 ? some(162) : some(9)};
+            case "set":
+            case "element": return new int[] {some(8), random.nextInt(9) == 0 ? some(160) : some(6)};
+            case "copy": return new int[] {some(4), some(4), some(4), some(4), some(4)};
+            case "show": return new int[] {some(8), random.nextInt(5) == 0 ? -1 : object()};
+            case "holds":
+            case "read": return new int[] {some(8)};
+            case "says": return new int[] {some(8), some(4)};
+            case "make":
+                int n = objects == 0 ? 0 : random.nextInt(5) == 0 ? 0 : some(4);
+                int kind = random.nextInt(3) == 0 ? some(4) : 0;
+                return new int[] {kind, n, object(), object(), object()};
+            case "wouldBe": return new int[] {some(4), object(), object(), object(), index(objects)};
+            case "value": return new int[] {object(), slot(), x()};
+            case "method": return new int[] {object(), slot(), some(10), k()};
+            case "remove": return new int[] {object(), slot()};
+            case "objectOf": return new int[] {object(), some(9)};
+            case "order": return new int[] {object(), index(objects)};
+            case "distance":
+            case "hidden": return new int[] {object(), object()};
+            case "where": return new int[] {object(), slot()};
+            case "slotOf": return new int[] {object(), slot(), some(3)};
+            case "send": return new int[] {object(), slot(), x()};
+            case "trial": return new int[] {object(), slot(), x(), some(2)};
+            case "way": return new int[] {generic(), object(), object(), some(4), some(10), k()};
+            case "wayOf": return new int[] {some(model.status(1)), some(6)};
+            case "applies": return new int[] {generic(), object(), object(), some(4), index(6)};
+            case "tie": return new int[] {generic(), object(), object()};
+            case "call": return new int[] {generic(), object(), object(), x()};
+            case "trace": return new int[] {random.nextInt(3) == 0 ? some(33) : some(4)};
+            case "judge": return new int[] {some(8), object(), slot(), random.nextInt(9) == 0 ? some(82) : some(4)};
+            case "days": return new int[] {random.nextInt(5) == 0 ? some(42) : 1 + some(4)};
+            case "seed": return new int[] {random.nextInt()};
+            case "status": return new int[] {some(18)};
+            default: return new int[0];
+        }
+    }
+
+    private int generic() {
+        return random.nextInt(12) == 0 ? some(8) : random.nextInt(2);
+    }
+
+    private String name() {
+        int all = 0;
+        for (int weight : WEIGHTS) {
+            all += weight;
+        }
+        int at = random.nextInt(all);
+        for (int i = 0; i < NAMES.length; i++) {
+            at -= WEIGHTS[i];
+            if (at < 0) {
+                return NAMES[i];
+            }
+        }
+        return "status";
+    }
+
+    private String text() {
+        StringBuilder text = new StringBuilder();
+        int items = 1 + random.nextInt(5);
+        for (int item = 0; item < items; item++) {
+            if (item > 0) {
+                text.append(';');
+            }
+            text.append("new ").append(random.nextInt(20) == 0 ? random.nextInt(10) : random.nextInt(4));
+            int parents = random.nextInt(5);
+            int objects = model.status(0) + item;
+            for (int i = 0; i < parents && objects > 0; i++) {
+                text.append(i == 0 ? '<' : ',');
+                text.append(random.nextInt(9) == 0 ? "0" : "").append(random.nextInt(objects));
+            }
+            int slots = random.nextInt(3);
+            for (int i = 0; i < slots; i++) {
+                text.append(' ').append((char) ('a' + random.nextInt(random.nextInt(5) == 0 ? 17 : 4)));
+                text.append(random.nextBoolean() ? "=" : ":" + random.nextInt(10) + ".");
+                text.append(random.nextInt(3) == 0 ? "-" : "").append(random.nextInt(100));
+            }
+        }
+        if (random.nextInt(3) == 0) {
+            spoil(text);
+        }
+        return text.toString();
+    }
+
+    private void spoil(StringBuilder text) {
+        String letters = "new <,;=:.-0123456789apq\u0000";
+        char letter = letters.charAt(random.nextInt(letters.length()));
+        int at = random.nextInt(text.length());
+        switch (random.nextInt(4)) {
+            case 0: text.setCharAt(at, letter); break;
+            case 1: text.insert(at, letter); break;
+            case 2: text.deleteCharAt(at); break;
+            default: text.setLength(at); break;
+        }
+    }
+
+    private void readText() {
+        String text = text();
+        int s = random.nextInt(8);
+        int sort = random.nextInt(4);
+        both("row", 0, s, sort, text.length());
+        for (int i = 0; i < text.length() && i < 160; i++) {
+            long v = text.charAt(i);
+            if (sort == 3 && random.nextInt(9) == 0) {
+                v += (long) random.nextInt() << 32;
+            }
+            both("set", v, s, i);
+        }
+        both("read", 0, s);
+        both("fault", 0);
+        lookAtAll();
+    }
+
+    /** Tables that are right as often as not, so that judge() goes on. */
+    private void judgeTable() {
+        int o = object();
+        int slot = slot();
+        int s = random.nextInt(8);
+        int twos = random.nextInt(9) == 0 ? 80 : 1 + random.nextInt(6);
+        both("row", 0, s, 2, 2 * twos);
+        for (int i = 0; i < twos; i++) {
+            int x = x();
+            both("set", x, s, 2 * i);
+            both("send", 0, o, slot, x);
+            both("set", random.nextInt(12) == 0 ? x() : model.given(), s, 2 * i + 1);
+        }
+        both("judge", 0, s, o, slot, twos);
+    }
+
+    private void lookAtAll() {
+        for (int what = 0; what < 18; what++) {
+            both("status", 0, what);
+        }
+        for (int o = 0; o < model.status(0); o++) {
+            for (int what = 0; what < 9; what++) {
+                both("objectOf", 0, o, what);
+            }
+            for (int i = 0; i < model.objectOf(o, 7); i++) {
+                both("order", 0, o, i);
+            }
+            for (int slot = 0; slot < 16; slot++) {
+                for (int what = 0; what < 3; what++) {
+                    both("slotOf", 0, o, slot, what);
+                }
+            }
+        }
+    }
+
+    private void live() {
+        while (calls < CALLS) {
+            if (random.nextInt(50) == 0) {
+                readText();
+            } else if (random.nextInt(60) == 0) {
+                judgeTable();
+            } else {
+                String name = daring && random.nextInt(3) == 0 ? "call" : name();
+                both(name, random.nextInt(3) == 0 ? random.nextLong() : x(), arguments(name));
+                if (name.equals("send") || name.equals("call")) {
+                    both("given", 0);
+                    both("status", 0, 6);
+                    both("status", 0, 5);
+                }
+            }
+        }
+        lookAtAll();
+        for (int i = 0; i < 32; i++) {
+            both("trace", 0, i);
+        }
+    }
+
+    public static void main(String[] args) {
+        for (int run = 0; run < RUNS && Due.wrongSoFar() == 0; run++) {
+            new RandomRunsTest(run).live();
+        }
+        Due.end("RandomRunsTest");
+    }
+}
