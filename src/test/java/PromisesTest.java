@@ -308,6 +308,11 @@ public final class PromisesTest {
         fault("new 0 `=1", 6);
         fault("new 0 a 1", 7);
         fault("new 0 a= 1", 8);
+        fault("new 0 a b", 7);
+        fault("new 0 a= b", 8);
+        fault("new 0 a: b", 8);
+        fault("new 0 a:1. b", 10);
+        fault("new 0 a b=1", 7);
         fault("new 0 a=+1", 8);
         fault("new 0 a=--1", 9);
         fault("new 0 a=123", 10);
@@ -679,6 +684,60 @@ public final class PromisesTest {
         due("SET goes", y.objectOf(9, 5), 1);
     }
 
+    /**
+     * 200 METHODS that all wait for the next: SLOTS of 16 in a line, each 15 GUARDS and a SUM of
+     * the next SLOT; the last SLOT has fewer of them, and the SLOT behind it is left to the caller.
+     */
+    private static ProtoOrders waiting(int methods) {
+        ProtoOrders x = line(16);
+        int left = methods;
+        for (int slot = 0; slot < 16 && left > 0; slot++) {
+            x.method(0, slot, 5, slot + 1);
+            left--;
+            for (int o = 1; o < 16 && left > 0; o++) {
+                x.method(o, slot, 9, slot);
+                left--;
+            }
+        }
+        return x;
+    }
+
+    private static void promise22waits() {
+        ProtoOrders x = waiting(200);
+        x.value(0, 13, 1000);
+        gives("200 wait", x, 15, 0, 5, 1005);
+        due("200 waited", x.status(6), 200);
+        x.remove(0, 13);
+        gives("the last GUARD makes it good", x, 15, 0, 5, 17);
+        x = waiting(201);
+        x.value(0, 13, 1000);
+        fails("201 wait", x, 15, 0, 5, 2);
+        // A GUARD around, THE CORE, and a SUM in it wait too.
+        x = waiting(198);
+        x.value(0, 13, 1000);
+        x.way(0, 0, 0, 3, 9, 7);
+        x.way(0, 0, 0, 0, 5, 0);
+        calls("200 and THE CORE wait", x, 15, 0, 5, 0, 1005);
+        due("200 and THE CORE", x.status(6), 200);
+        x.way(0, 0, 0, 3, 9, 7);
+        calls("201 and THE CORE wait", x, 15, 0, 5, 2, 0);
+        // A new act counts anew.
+        x = line(1);
+        x.method(0, 0, 4, 0);
+        x.method(0, 1, 8, 0);
+        fails("all 200", x, 0, 0, 5, 2);
+        due("a trial counts anew", x.trial(0, 1, 0, 0) * 10 + x.trial(0, 1, 0, 1), 1);
+        x.send(0, 0, 5);
+        gives("a send counts anew", x, 0, 1, 0, 1);
+        x.send(0, 0, 5);
+        x.way(0, 0, 0, 0, 8, 0);
+        calls("a call counts anew", x, 0, 0, 0, 0, 1);
+        x.send(0, 0, 5);
+        x.row(0, 2, 2);
+        x.set(0, 1, 1);
+        due("a judge counts anew", x.judge(0, 0, 1, 1), NONE);
+    }
+
     /** WAYS and METHODS count together: 198 and some more AROUND. */
     private static void promise22endsByWays() {
         for (int more = 0; more < 4; more++) {
@@ -1047,13 +1106,16 @@ public final class PromisesTest {
             int deed = drawn(seed, 3);
             ProtoOrders x = new ProtoOrders();
             x.make(0, 0, 0, 0, 0);
+            // What ran ahead does not count.
+            x.method(0, slot, 4, slot);
+            x.send(0, slot, 0);
             x.seed(start);
             x.method(0, slot, 6, 15 - slot);
             int with = deed == 2 ? 0 : drawn(seed, 100);
             due("a day", x.days(1), deed == 0 ? 1 : deed == 1 ? 2 : 0);
             due("a day's seed", x.status(4), seed[0]);
             due("a day's send", x.slotOf(0, 15 - slot, 2), deed == 1 ? with : 0);
-            due("a day is no send", x.status(6) + x.given(), 0);
+            due("a day is no send", x.status(6) + x.given(), 200);
         }
     }
 
@@ -1213,6 +1275,7 @@ public final class PromisesTest {
         promise22undoes();
         promise22ends();
         promise22endsByWays();
+        promise22waits();
         promise22refusals();
         promise23();
         promise24();

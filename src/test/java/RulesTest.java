@@ -97,6 +97,10 @@ public final class RulesTest {
             Matcher found = Pattern.compile(forbidden).matcher(code);
             Due.due("in the source: " + forbidden, found.find() ? 1 : 0, 0);
         }
+        for (String line : code.split("\n")) {
+            boolean kept = line.matches("\\s+(private )?final .*");
+            Due.due("objects are made with the class alone: " + line, line.contains("new ") && !kept ? 1 : 0, 0);
+        }
         int longest = 0;
         int since = -1;
         String[] lines = all.split("\n");
