@@ -1047,9 +1047,8 @@ public final class ProtoOrders {
         }
 
         private boolean readMethod(World world, int o, int slot) {
-            if (!pass(':')) {
-                return false;
-            }
+            // Over the : that stands here.
+            at++;
             if (!digitStands()) {
                 return markFault(at);
             }

@@ -709,6 +709,12 @@ public final class PromisesTest {
         due("200 waited", x.status(6), 200);
         x.remove(0, 13);
         gives("the last GUARD makes it good", x, 15, 0, 5, 17);
+        // The very last that waits is a GUARD with a k of its own.
+        x.remove(0, 12);
+        x.method(8, 12, 9, 12);
+        x.method(1, 12, 9, 55);
+        gives("the 200th makes it good", x, 15, 0, 5, 60);
+        due("200 with the 200th", x.status(6), 200);
         x = waiting(201);
         x.value(0, 13, 1000);
         fails("201 wait", x, 15, 0, 5, 2);
@@ -719,6 +725,10 @@ public final class PromisesTest {
         x.way(0, 0, 0, 0, 5, 0);
         calls("200 and THE CORE wait", x, 15, 0, 5, 0, 1005);
         due("200 and THE CORE", x.status(6), 200);
+        x.remove(0, 12);
+        x.method(6, 12, 9, 12);
+        x.method(1, 12, 9, 55);
+        calls("the 200th makes it good in THE CORE", x, 15, 0, 5, 0, 60);
         x.way(0, 0, 0, 3, 9, 7);
         calls("201 and THE CORE wait", x, 15, 0, 5, 2, 0);
         // A new act counts anew.
