@@ -3,8 +3,14 @@ final class Due {
     private static final int SAID = 40;
     private static int wrong = 0;
     private static int asked = 0;
+    private static String about = "";
 
     private Due() {
+    }
+
+    /** What all that is asked from now on is about; it is said ahead of each wrong answer. */
+    static void about(String what) {
+        about = what;
     }
 
     static void due(String call, long got, long want) {
@@ -12,13 +18,17 @@ final class Due {
         if (got != want) {
             wrong++;
             if (wrong <= SAID) {
-                System.out.println(call + " answered " + got + ", due is " + want);
+                System.out.println(about + call + " answered " + got + ", due is " + want);
             }
         }
     }
 
     static int wrongSoFar() {
         return wrong;
+    }
+
+    static int askedSoFar() {
+        return asked;
     }
 
     static void end(String test) {

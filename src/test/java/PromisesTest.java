@@ -1,88 +1,6 @@
 /** Each promise by hand: ordinary inputs, edges, wrong inputs in the order of their refusals. */
-public final class PromisesTest {
-    private static final int NONE = ProtoOrders.NONE;
-    private static final int LEAST = Integer.MIN_VALUE;
-    private static final int MOST = Integer.MAX_VALUE;
-
+public final class PromisesTest extends TestBase {
     private PromisesTest() {
-    }
-
-    private static void due(String call, long got, long want) {
-        Due.due(call, got, want);
-    }
-
-    /** How many were refused, by their numbers -1 to -7. */
-    private static void refused(String what, ProtoOrders x, int... many) {
-        for (int i = 0; i < many.length; i++) {
-            due(what + ": refusals -" + (i + 1), x.status(11 + i), many[i]);
-        }
-    }
-
-    private static void lay(ProtoOrders x, int s, int sort, String text) {
-        x.row(s, sort, text.length());
-        for (int i = 0; i < text.length(); i++) {
-            x.set(s, i, text.charAt(i));
-        }
-    }
-
-    private static int reading(ProtoOrders x, String text) {
-        lay(x, 7, 0, text);
-        return x.read(7);
-    }
-
-    private static void fault(String text, int want) {
-        fault(new ProtoOrders(), text, want);
-    }
-
-    private static void fault(ProtoOrders x, String text, int want) {
-        int objects = x.status(0);
-        due("read " + text, reading(x, text), want == NONE ? text.split(";", -1).length : -6);
-        due("fault of " + text, x.fault(), want);
-        if (want != NONE) {
-            due("objects behind " + text, x.status(0), objects);
-        }
-    }
-
-    private static void gives(String what, ProtoOrders x, int o, int slot, int with, int want) {
-        due(what + " send", x.send(o, slot, with), 0);
-        due(what + " given", x.given(), want);
-    }
-
-    private static void fails(String what, ProtoOrders x, int o, int slot, int with, int want) {
-        due(what + " send", x.send(o, slot, with), want);
-        due(what + " given", x.given(), 0);
-    }
-
-    private static void calls(String what, ProtoOrders x, int a, int b, int with, int outcome, int want) {
-        due(what + " call", x.call(0, a, b, with), outcome);
-        due(what + " given", x.given(), want);
-    }
-
-    private static void traces(String what, ProtoOrders x, int... ways) {
-        due(what + " ways ran", x.status(5), ways.length);
-        for (int i = 0; i < ways.length; i++) {
-            due(what + " trace " + i, x.trace(i), ways[i]);
-        }
-        due(what + " trace's end", x.trace(ways.length), NONE);
-    }
-
-    /** 0; 1 and 2 under 0; 3 under 1 and 2. */
-    private static ProtoOrders diamond() {
-        ProtoOrders x = new ProtoOrders();
-        x.make(0, 0, 0, 0, 0);
-        x.make(0, 1, 0, 0, 0);
-        x.make(0, 1, 0, 0, 0);
-        x.make(0, 2, 1, 2, 0);
-        return x;
-    }
-
-    private static ProtoOrders line(int objects) {
-        ProtoOrders x = new ProtoOrders();
-        x.make(0, 0, 0, 0, 0);
-        for (int o = 1; o < objects; o++) {
-            x.make(0, 1, o - 1, 0, 0);
-        }
-        return x;
     }
 
     private static void promise1() {
@@ -684,24 +602,6 @@ public final class PromisesTest {
         due("SET goes", y.objectOf(9, 5), 1);
     }
 
-    /**
-     * 200 METHODS that all wait for the next: SLOTS of 16 in a line, each 15 GUARDS and a SUM of
-     * the next SLOT; the last SLOT has fewer of them, and the SLOT behind it is left to the caller.
-     */
-    private static ProtoOrders waiting(int methods) {
-        ProtoOrders x = line(16);
-        int left = methods;
-        for (int slot = 0; slot < 16 && left > 0; slot++) {
-            x.method(0, slot, 5, slot + 1);
-            left--;
-            for (int o = 1; o < 16 && left > 0; o++) {
-                x.method(o, slot, 9, slot);
-                left--;
-            }
-        }
-        return x;
-    }
-
     private static void promise22waits() {
         ProtoOrders x = waiting(200);
         x.value(0, 13, 1000);
@@ -1062,11 +962,6 @@ public final class PromisesTest {
         due("judge 81", x.judge(1, 0, 0, 81), -15);
         due("judge most", x.judge(0, 0, 0, MOST), -15);
         refused("judge", x, 3, 1, 1, 1, 3, 0, 0);
-    }
-
-    private static int drawn(int[] seed, int n) {
-        seed[0] = seed[0] * 1103515245 + 12345;
-        return (seed[0] >>> 16) % n;
     }
 
     private static void promise32() {
