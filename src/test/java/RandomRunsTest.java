@@ -3,8 +3,10 @@ import java.util.Random;
 
 /** Random runs of calls, each answered by the program as by the Model. */
 public final class RandomRunsTest {
-    private static final int RUNS = 4000;
+    private static final int RUNS = 6000;
+    /** What an object answers after so many calls is free. */
     private static final int CALLS = 512;
+    private static final int LOOKS = 120;
     private static final String[] NAMES = {"row", "set", "copy", "element", "show", "holds", "says",
         "read", "fault", "make", "wouldBe", "value", "method", "remove", "objectOf", "order",
         "distance", "where", "hidden", "slotOf", "send", "given", "trial", "way", "wayOf",
@@ -108,7 +110,11 @@ public final class RandomRunsTest {
         }
     }
 
+    /** Calls both, unless the object has had all its calls. */
     private long both(String name, long v, int... a) {
+        if (calls == CALLS) {
+            return 0;
+        }
         calls++;
         long want = onModel(name, a, v);
         long got;
@@ -272,7 +278,7 @@ public final class RandomRunsTest {
         }
         both("read", 0, s);
         both("fault", 0);
-        lookAtAll();
+        lookAround(Math.min(calls + 30, CALLS));
     }
 
     /** Tables that are right as often as not, so that judge() goes on. */
@@ -291,27 +297,32 @@ public final class RandomRunsTest {
         both("judge", 0, s, o, slot, twos);
     }
 
-    private void lookAtAll() {
-        for (int what = 0; what < 18; what++) {
-            both("status", 0, what);
+    private void look() {
+        int o = random.nextInt(Math.max(model.status(0), 1));
+        int slot = random.nextInt(16);
+        switch (random.nextInt(9)) {
+            case 0: both("status", 0, random.nextInt(18)); break;
+            case 1: both("objectOf", 0, o, random.nextInt(9)); break;
+            case 2: both("order", 0, o, random.nextInt(16)); break;
+            case 3: both("trace", 0, random.nextInt(32)); break;
+            case 4: both("wayOf", 0, random.nextInt(Math.max(model.status(1), 1)), random.nextInt(6)); break;
+            case 5: both("element", 0, random.nextInt(8), random.nextInt(9)); break;
+            case 6: both("holds", 0, random.nextInt(8)); break;
+            default: both("slotOf", 0, o, slot, 0);
+                both("slotOf", 0, o, slot, 1);
+                both("slotOf", 0, o, slot, 2);
+                break;
         }
-        for (int o = 0; o < model.status(0); o++) {
-            for (int what = 0; what < 9; what++) {
-                both("objectOf", 0, o, what);
-            }
-            for (int i = 0; i < model.objectOf(o, 7); i++) {
-                both("order", 0, o, i);
-            }
-            for (int slot = 0; slot < 16; slot++) {
-                for (int what = 0; what < 3; what++) {
-                    both("slotOf", 0, o, slot, what);
-                }
-            }
+    }
+
+    private void lookAround(int till) {
+        while (calls < till) {
+            look();
         }
     }
 
     private void live() {
-        while (calls < CALLS) {
+        while (calls < CALLS - LOOKS) {
             if (random.nextInt(50) == 0) {
                 readText();
             } else if (random.nextInt(60) == 0) {
@@ -326,10 +337,7 @@ public final class RandomRunsTest {
                 }
             }
         }
-        lookAtAll();
-        for (int i = 0; i < 32; i++) {
-            both("trace", 0, i);
-        }
+        lookAround(CALLS);
     }
 
     public static void main(String[] args) {

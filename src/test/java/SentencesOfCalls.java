@@ -1,7 +1,5 @@
 /** GENERIC CALLS: promises 25 to 30 and their Terms. */
 final class SentencesOfCalls extends TestBase {
-    private static final int[] NO_OBJECTS = {-1, 6, LEAST, MOST};
-    private static final int[] NO_GENERICS = {-1, 8, LEAST, MOST};
     private static final String WAY = "-1 GENERIC, OBJECTS; -6 SORT, FUNCTION, k; -7.";
 
     private SentencesOfCalls() {
@@ -12,6 +10,16 @@ final class SentencesOfCalls extends TestBase {
         for (int i = 0; i < many; i++) {
             x.way(0, 0, 0, sort, function, k);
         }
+    }
+
+    /** One OBJECT with a VALUE in each SLOT: no NEXT of a WAY is a SLOT. */
+    private static ProtoOrders slotted() {
+        ProtoOrders x = line(2);
+        for (int slot = 0; slot < 16; slot++) {
+            x.value(0, slot, 700 + slot);
+            x.value(1, slot, 800 + slot);
+        }
+        return x;
     }
 
     private static void applies(String what, ProtoOrders x, int a, int b, int sort, int... ways) {
@@ -108,6 +116,22 @@ final class SentencesOfCalls extends TestBase {
         applies("both itself", x, 0, 0, MAIN, 0);
     }
 
+    @Sentence(in = "Terms 3", says = "FAR is the DISTANCE of a to p and that of b to q together.")
+    static void howFar() {
+        // One WAY in the middle, and one as far, nearer, or farther; the later made is ahead of its likes.
+        for (int p = 0; p < 16; p++) {
+            for (int q = 0; q < 16; q++) {
+                ProtoOrders x = line(16);
+                x.way(0, p, q, MAIN, ADD, 0);
+                x.way(0, 8, 7, MAIN, ADD, 0);
+                int far = 15 - p + 15 - q;
+                boolean ahead = far < 15 || far == 15 && p > 8;
+                due("the first with " + p + ", " + q, x.applies(0, 15, 15, MAIN, 0), ahead ? 0 : 1);
+                due("a TIE with " + p + ", " + q, x.tie(0, 15, 15), far == 15 ? 1 : 0);
+            }
+        }
+    }
+
     @Sentence(in = "Terms 3", says = "They stand by FAR, the least first, of several by the DISTANCE of a to p, the least"
         + " first, of these by numbers, the later made first.")
     static void howTheyStand() {
@@ -196,7 +220,7 @@ final class SentencesOfCalls extends TestBase {
         due("each with x", x.slotOf(1, 1, 2), 12);
         due("each with x", x.slotOf(1, 2, 2), 12);
         for (int function : new int[] {NEXT, TWICE, WHEN}) {
-            ProtoOrders y = line(1);
+            ProtoOrders y = slotted();
             y.way(0, 0, 0, MAIN, ADD, 0);
             ways(y, 1, BEFORE, ADD, 0);
             ways(y, 1, BEFORE, function, 99);
@@ -213,7 +237,7 @@ final class SentencesOfCalls extends TestBase {
     @Sentence(in = "Terms 3", says = "then MAIN ones, one behind the other, are what gives (the NEXT of the last: there is"
         + " none);")
     static void mains() {
-        ProtoOrders x = line(2);
+        ProtoOrders x = slotted();
         x.way(0, 0, 0, MAIN, NEXT, 1);
         x.way(0, 0, 1, MAIN, NEXT, 10);
         x.way(0, 1, 1, MAIN, TWICE, 0);
@@ -239,7 +263,7 @@ final class SentencesOfCalls extends TestBase {
         due("each with what MAIN gave", x.slotOf(1, 1, 2), 95);
         due("each with what MAIN gave", x.slotOf(1, 2, 2), 95);
         for (int function : new int[] {NEXT, TWICE, WHEN}) {
-            ProtoOrders y = line(1);
+            ProtoOrders y = slotted();
             ways(y, 1, MAIN, ADD, 0);
             ways(y, 1, AFTER, function, 99);
             ways(y, 1, AFTER, ADD, 0);
@@ -255,6 +279,10 @@ final class SentencesOfCalls extends TestBase {
 
     @Sentence(in = "Terms 3", says = "No MAIN one: THE CORE FAILS at once.")
     static void noMain() {
+        ProtoOrders y = slotted();
+        ways(y, 1, AROUND, NEXT, 1);
+        calls("no SLOT is THE CORE", y, 0, 0, 5, 1, 0);
+        calls("of a lower one neither", y, 1, 0, 5, 1, 0);
         ProtoOrders x = line(1);
         calls("no WAY", x, 0, 0, 5, 1, 0);
         traces("no WAY", x);

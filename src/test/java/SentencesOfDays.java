@@ -2,9 +2,6 @@ import java.util.Arrays;
 
 /** Told TABLES, DAYS, SEED, THE IMAGE and status: promises 31 to 36 and their Terms. */
 final class SentencesOfDays extends TestBase {
-    private static final int[] NO_SHELVES = {-1, 8, LEAST, MOST};
-    private static final int[] NO_OBJECTS = {-1, 6, LEAST, MOST};
-    private static final int[] NO_SLOTS = {-1, 16, LEAST, MOST};
     private static final String JUDGE = "-11 also OBJECT, SLOT; -12; -13; -14 n; -15 fewer elements; -16 n above 80"
         + " (counted as -1 to -6).";
 
@@ -164,11 +161,18 @@ final class SentencesOfDays extends TestBase {
         + " wrapping); its upper 16 bits, no sign, modulo n.")
     static void draws() {
         due("SEED at first", new ProtoOrders().status(4), 1);
-        // From 1 on: 1103527590, -1770024251 (upper 16 bits 38527), .. (by hand once, then by drawn).
         int[] seed = {1};
-        due("the first DRAW", drawn(seed, 65536), 1103527590 >>> 16);
-        due("the SEED behind it", seed[0], 1103527590);
-        due("the second DRAW", drawn(seed, 65536), (1103527590 * 1103515245 + 12345) >>> 16);
+        int[] upper = {16838, 38526, 10113, 50283, 63819};
+        int[] seeds = {1103527590, -1770082073, 662824084, -999580867, -112468174};
+        for (int i = 0; i < upper.length; i++) {
+            due("DRAW " + i, drawn(seed, 65536), upper[i]);
+            due("the SEED behind it", seed[0], seeds[i]);
+        }
+        // By these DRAWS: OBJECT 0, SLOT 14 (38526 modulo 16), 0 (10113 modulo 3), VALUE 83.
+        ProtoOrders first = apart(1);
+        due("the first day", first.days(1), 1);
+        due("its VALUE", first.slotOf(0, 14, 2), 83);
+        due("its SEED", first.status(4), -999580867);
         // One STILL OBJECT without SLOTS: the days are draws alone.
         for (int start : new int[] {1, 0, -1, 2, LEAST, MOST, 12345, -1103515245, 77, 78, 79, 80}) {
             ProtoOrders x = new ProtoOrders();
@@ -452,15 +456,15 @@ final class SentencesOfDays extends TestBase {
         due("its KIND", y.objectOf(0, 0), STILL);
     }
 
-    /** Some 250 numbers of six OBJECTS and four WAYS. */
+    /** What is told of six OBJECTS, their first ten SLOTS, and four WAYS. */
     private static long[] allOf(ProtoOrders x) {
-        long[] all = new long[6 * 25 + 6 * 3 + 4 * 6 + 5];
+        long[] all = new long[6 * 22 + 4 * 6 + 5];
         int at = 0;
         for (int o = 0; o < 6; o++) {
             for (int what = 0; what < 9; what++) {
                 all[at++] = x.objectOf(o, what);
             }
-            for (int slot = 0; slot < 16; slot++) {
+            for (int slot = 0; slot < 10; slot++) {
                 all[at++] = x.slotOf(o, slot, 0) * 1000L + x.slotOf(o, slot, 1) * 100L + x.slotOf(o, slot, 2) * 10000L;
             }
             for (int i = 0; i < 3; i++) {

@@ -1,8 +1,5 @@
 /** OBJECTS, their ORDERS and SLOTS: promises 11 to 21 and their Terms. */
 final class SentencesOfObjects extends TestBase {
-    /** What is no OBJECT where there are 6. */
-    private static final int[] NO_OBJECTS = {-1, 6, LEAST, MOST};
-    private static final int[] NO_SLOTS = {-1, 16, LEAST, MOST};
     private static final String MAKE = "-1 KIND; -6 n; -1 PARENTS (in this order); -6 a PARENT twice, one that is LAST,"
         + " no ORDER; -7.";
     private static final String WOULD_BE = "-16 n; -11 PARENTS (in this order); -16 one twice, LAST (counted as -6, -1).";
@@ -455,6 +452,8 @@ final class SentencesOfObjects extends TestBase {
         due("all SLOTS itself", x.objectOf(3, 5), 65535);
         due("all SLOTS FOUND", x.objectOf(15, 6), 65535);
         due("FOUND ahead of it", x.objectOf(2, 6), 0x8001);
+        due("none itself", apart(2).objectOf(1, 5), 0);
+        due("none FOUND", line(16).objectOf(15, 6), 0);
     }
 
     @Sentence(in = "Promise 16", says = "-5: no such one, another what.")
@@ -526,6 +525,20 @@ final class SentencesOfObjects extends TestBase {
         }
     }
 
+    @Sentence(in = "Terms 3", says = "WHERE: the OBJECT in which a SLOT is FOUND.")
+    static void whereOfTwo() {
+        ProtoOrders x = diamond();
+        x.value(0, 4, 1);
+        due("below both", x.where(3, 4), 0);
+        x.value(2, 4, 1);
+        due("in the second PARENT", x.where(3, 4), 2);
+        due("not for the first", x.where(1, 4), 0);
+        x.method(1, 4, ADD, 0);
+        due("in the first", x.where(3, 4), 1);
+        x.value(3, 4, 1);
+        due("in itself", x.where(3, 4), 3);
+    }
+
     @Sentence(in = "Promise 19", says = "WHERE; NONE: it isn't FOUND.")
     static void whereBounds() {
         ProtoOrders x = line(16);
@@ -576,6 +589,22 @@ final class SentencesOfObjects extends TestBase {
         due("none of one without", x.hidden(15, 7), 0);
     }
 
+    @Sentence(in = "Promise 20", says = "HIDDEN.")
+    static void hiddenOfTwo() {
+        ProtoOrders x = diamond();
+        x.value(0, 0, 1);
+        x.value(0, 15, 1);
+        x.method(2, 15, ADD, 1);
+        x.method(1, 7, ADD, 1);
+        x.value(2, 7, 1);
+        due("of 0 for 3", x.hidden(3, 0), 0x8000);
+        due("of 0 for 1", x.hidden(1, 0), 0);
+        due("of 2 for 3", x.hidden(3, 2), 128);
+        due("of 1 for 3", x.hidden(3, 1), 0);
+        due("of 2 for 2", x.hidden(2, 2), 0);
+        refused("hidden", x, 0, 0, 0, 0, 0, 0, 0);
+    }
+
     @Sentence(in = "Promise 20", says = "-1; -6 p isn't in the ORDER of o.")
     static void hiddenRefused() {
         for (int none : NO_OBJECTS) {
@@ -590,6 +619,22 @@ final class SentencesOfObjects extends TestBase {
     }
 
     // ---- slotOf
+
+    @Sentence(in = "Promise 21", says = "Of a SLOT of an OBJECT itself: 0 whether it is a METHOD (1, 0), 1 its FUNCTION (0: a"
+        + " VALUE), 2 its VALUE, or k.")
+    static void slotOfItself() {
+        ProtoOrders x = line(2);
+        for (int function = 0; function < 10; function++) {
+            x.method(1, 15, function, 9 * function - 40);
+            due("a METHOD", x.slotOf(1, 15, 0), 1);
+            due("its FUNCTION", x.slotOf(1, 15, 1), function);
+            due("its k", x.slotOf(1, 15, 2), 9 * function - 40);
+            x.value(1, 15, LEAST + function);
+            due("a VALUE", x.slotOf(1, 15, 0), 0);
+            due("no FUNCTION", x.slotOf(1, 15, 1), 0);
+            due("its VALUE", x.slotOf(1, 15, 2), LEAST + function);
+        }
+    }
 
     @Sentence(in = "Promise 21", says = "0 if there is none, or no such what (nothing is refused).")
     static void slotOfBounds() {

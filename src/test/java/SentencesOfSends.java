@@ -1,8 +1,5 @@
 /** SENDS: promises 22 to 24 and their Terms. */
 final class SentencesOfSends extends TestBase {
-    private static final int[] NO_OBJECTS = {-1, 6, LEAST, MOST};
-    private static final int[] NO_SLOTS = {-1, 16, LEAST, MOST};
-
     private SentencesOfSends() {
     }
 
@@ -72,6 +69,28 @@ final class SentencesOfSends extends TestBase {
     }
 
     // ---- the FUNCTIONS
+
+    @Sentence(in = "Terms 2", says = "A METHOD RUNS, with o as SELF; by its FUNCTION it gives (all wrapping):")
+    static void allWrap() {
+        // ADD, NEXT, SUM, COUNT add, TIMES times: at the most, at the least.
+        for (int function : new int[] {ADD, NEXT, SUM, COUNT, TIMES}) {
+            ProtoOrders x = one(function, 2);
+            x.value(0, 2, 2);
+            int more = function == COUNT ? 1 : 2;
+            int[] with = {MOST - more, MOST - more + 1, MOST, LEAST, LEAST + 1};
+            for (int each : with) {
+                gives("FUNCTION " + function, x, 1, 0, each, function == TIMES ? each * 2 : each + more);
+            }
+        }
+        // SELF is who is sent to, however far the METHOD is.
+        ProtoOrders y = line(16);
+        y.method(0, 0, SET, 1);
+        for (int o : new int[] {15, 7, 0}) {
+            gives("SELF " + o, y, o, 0, 100 + o, 100 + o);
+            due("it is SET in", y.slotOf(o, 1, 2), 100 + o);
+        }
+        due("in no other", y.status(2), 4);
+    }
 
     @Sentence(in = "Terms 2", says = "0 ADD: x + k.")
     static void add() {
@@ -324,6 +343,33 @@ final class SentencesOfSends extends TestBase {
         due("200 ran", y.status(6), 200);
         y.method(0, 0, COUNT, 0);
         gives("the next act is free of it", y, 2, 0, 1, 4);
+        // SUMS that wait when it ENDS wait no more.
+        y.method(0, 0, SUM, 0);
+        fails("SUMS for ever", y, 2, 0, 1, 2);
+        y.value(0, 1, 1000);
+        gives("none of them in the next act", y, 2, 1, 1, 1000);
+        // The 200th can wait too: a GUARD with a k of its own.
+        ProtoOrders z = waiting(192);
+        z.method(8, 12, GUARD, 12);
+        z.method(1, 12, GUARD, 55);
+        for (int o = 2; o < 8; o++) {
+            z.method(o, 12, GUARD, 12);
+        }
+        gives("the 200th makes it good", z, 15, 0, 5, 60);
+        due("200 ran", z.status(6), 200);
+        z.method(9, 12, GUARD, 12);
+        fails("the 201st would", z, 15, 0, 5, 2);
+        // 199 wait, and THE CORE, and the 200th.
+        z.remove(9, 12);
+        z.remove(8, 12);
+        z.way(0, 0, 0, MAIN, SUM, 0);
+        calls("the 200th behind THE CORE", z, 15, 0, 5, 0, 60);
+        z.remove(7, 12);
+        z.way(0, 0, 0, AROUND, GUARD, 9);
+        calls("with a GUARD around THE CORE", z, 15, 0, 5, 0, 60);
+        due("200 ran", z.status(6), 200);
+        z.way(0, 0, 0, AROUND, GUARD, 9);
+        calls("with two", z, 15, 0, 5, 2, 0);
     }
 
     /** SLOT a of the tenth: so many METHODS (200 or 201), the last ones SET b of it. */

@@ -1,7 +1,5 @@
 /** SHELVES and ROWS: promises 1 to 8 and their Terms. */
 final class SentencesOfShelves extends TestBase {
-    private static final int[] NO_SHELVES = {-1, 8, LEAST, MOST};
-    private static final int[] NO_OBJECTS = {-1, 6, LEAST, MOST};
     private static final String ROW = "-1; -4; -6 SORT; -7 n above 160.";
     private static final String SET_ = "-1; -2; -3; -5.";
     private static final String COPY = "-1; -2 also of two SORTS (when both hold something); -3 either; -4 n;"

@@ -339,12 +339,32 @@ final class SentencesOfTexts extends TestBase {
         Set<Integer> ends = Set.of(5, 10, 11, 17, 18, 24, 26, 32, 34, 36, 37, 41);
         for (int n = 0; n <= whole.length(); n++) {
             fault(whole.substring(0, n), ends.contains(n) ? NONE : n);
+            // What an earlier TEXT had there is no more.
+            ProtoOrders x = new ProtoOrders();
+            reading(x, whole);
+            fault(x, whole.substring(0, n), ends.contains(n) ? NONE : n);
         }
         for (int at = 0; at < whole.length(); at++) {
             fault(whole.substring(0, at) + "\u0001" + whole.substring(at + 1), at);
             fault(whole.substring(0, at) + "\u0001" + whole.substring(at), at);
         }
         fault(whole + "\u0001", whole.length());
+        String[] open = {";", ";n", ";ne", ";new", ";new ", ";new 0<", ";new 0<0,", " ", " a", " a=", " a=-", " a:",
+            " a:9", " a:9.", " a:9.-"};
+        for (String end : open) {
+            fault(endingAt160(end), 160);
+        }
+        fault(endingAt160(" a=1"), NONE);
+    }
+
+    /** A TEXT of as many elements as a ROW has, the last of them these. */
+    private static String endingAt160(String end) {
+        StringBuilder text = new StringBuilder("new 0");
+        int left = 160 - text.length() - end.length();
+        for (int i = 0; i < left / 4; i++) {
+            text.append(i < left % 4 ? " b=10" : " b=1");
+        }
+        return text.append(end).toString();
     }
 
     @Sentence(in = "Terms 1", says = "of an N that is no such OBJECT, is LAST, or was there, its first digit;")

@@ -27,6 +27,12 @@ abstract class TestBase {
     static final int COUNT = 8;
     static final int GUARD = 9;
 
+    static final int[] NO_SHELVES = {-1, 8, LEAST, MOST};
+    static final int[] NO_SLOTS = {-1, 16, LEAST, MOST};
+    static final int[] NO_GENERICS = {-1, 8, LEAST, MOST};
+    /** Where there are six, as common() makes them. */
+    static final int[] NO_OBJECTS = {-1, 6, LEAST, MOST};
+
     static void due(String call, long got, long want) {
         Due.due(call, got, want);
     }
