@@ -347,19 +347,10 @@ public final class ProtoOrders {
         if (!isSort(sort) || !isFunction(function, k)) {
             return refuse(WRONG);
         }
-        if (world.ways >= WAYS) {
+        if (world.isFullOfWays()) {
             return refuse(ROOM);
         }
-        int way = world.ways;
-        int base = way * WAY_PARTS;
-        world.wayParts[base] = generic;
-        world.wayParts[base + 1] = p;
-        world.wayParts[base + 2] = q;
-        world.wayParts[base + 3] = sort;
-        world.wayParts[base + 4] = function;
-        world.wayParts[base + 5] = k;
-        world.ways = way + 1;
-        return way;
+        return world.addWay(generic, p, q, sort, function, k);
     }
 
     public int wayOf(int way, int what) {
@@ -576,7 +567,7 @@ public final class ProtoOrders {
         final int[] slotSorts = new int[OBJECTS * SLOTS];
         final int[] slotFunctions = new int[OBJECTS * SLOTS];
         final int[] slotNumbers = new int[OBJECTS * SLOTS];
-        final int[] wayParts = new int[WAYS * WAY_PARTS];
+        private final int[] wayParts = new int[WAYS * WAY_PARTS];
 
         boolean hasObject(int o) {
             return o >= 0 && o < objects;
@@ -600,6 +591,24 @@ public final class ProtoOrders {
             }
             objects = o + 1;
             return o;
+        }
+
+        boolean isFullOfWays() {
+            return ways >= WAYS;
+        }
+
+        /** The new WAY's number. */
+        int addWay(int generic, int p, int q, int sort, int function, int k) {
+            int way = ways;
+            int base = way * WAY_PARTS;
+            wayParts[base] = generic;
+            wayParts[base + 1] = p;
+            wayParts[base + 2] = q;
+            wayParts[base + 3] = sort;
+            wayParts[base + 4] = function;
+            wayParts[base + 5] = k;
+            ways = way + 1;
+            return way;
         }
 
         int parentAt(int o, int i) {

@@ -1,4 +1,9 @@
+import java.lang.reflect.InvocationTargetException;
+import java.lang.reflect.Method;
+import java.lang.reflect.Modifier;
 import java.util.Arrays;
+import java.util.HashMap;
+import java.util.Map;
 import java.util.Random;
 
 /** Random runs of calls, each answered by the program as by the Model. */
@@ -15,98 +20,56 @@ public final class RandomRunsTest {
         14, 3, 8, 14, 3, 6, 4, 14, 4, 4, 3, 1, 1, 1, 4};
     private static final int[] ODD = {-1, -2, Integer.MIN_VALUE, Integer.MAX_VALUE, -100, 100, 16, 8, 4};
 
+    private static final Map<String, Method> ON_PROGRAM = methodsOf(ProtoOrders.class);
+    private static final Map<String, Method> ON_MODEL = methodsOf(Model.class);
+
+    private static final int PLAIN = TestBase.PLAIN;
+    private static final int FIRM = TestBase.FIRM;
+    private static final int MAIN = TestBase.MAIN;
+    private static final int AROUND = TestBase.AROUND;
+    private static final int[] SORTS = {MAIN, MAIN, TestBase.BEFORE, TestBase.AFTER, AROUND, AROUND};
+    private static final int[] GOING_ON = {TestBase.NEXT, TestBase.NEXT, TestBase.TWICE, TestBase.TWICE, TestBase.GUARD,
+        TestBase.GUARD, TestBase.WHEN, TestBase.SELF, TestBase.SUM};
+    private static final int[] ALONE = {TestBase.SET, TestBase.SET, TestBase.COUNT, TestBase.GUARD, TestBase.SUM,
+        TestBase.SELF, TestBase.ADD};
+
     private final Random random;
     private final ProtoOrders program = new ProtoOrders();
     private final Model model = new Model();
     private final int run;
     private final boolean daring;
+    private final boolean crowded;
     private int calls = 0;
 
     private RandomRunsTest(int run) {
         this.run = run;
         random = new Random(run * 7919L + 17);
         daring = random.nextInt(3) == 0;
+        crowded = run % 2 == 1;
     }
 
-    private long onProgram(String name, int[] a, long v) {
-        ProtoOrders x = program;
-        switch (name) {
-            case "row": return x.row(a[0], a[1], a[2]);
-            case "set": return x.set(a[0], a[1], v);
-            case "copy": return x.copy(a[0], a[1], a[2], a[3], a[4]);
-            case "element": return x.element(a[0], a[1]);
-            case "show": return x.show(a[0], a[1]);
-            case "holds": return x.holds(a[0]);
-            case "says": return x.says(a[0], a[1]);
-            case "read": return x.read(a[0]);
-            case "fault": return x.fault();
-            case "make": return x.make(a[0], a[1], a[2], a[3], a[4]);
-            case "wouldBe": return x.wouldBe(a[0], a[1], a[2], a[3], a[4]);
-            case "value": return x.value(a[0], a[1], a[2]);
-            case "method": return x.method(a[0], a[1], a[2], a[3]);
-            case "remove": return x.remove(a[0], a[1]);
-            case "objectOf": return x.objectOf(a[0], a[1]);
-            case "order": return x.order(a[0], a[1]);
-            case "distance": return x.distance(a[0], a[1]);
-            case "where": return x.where(a[0], a[1]);
-            case "hidden": return x.hidden(a[0], a[1]);
-            case "slotOf": return x.slotOf(a[0], a[1], a[2]);
-            case "send": return x.send(a[0], a[1], a[2]);
-            case "given": return x.given();
-            case "trial": return x.trial(a[0], a[1], a[2], a[3]);
-            case "way": return x.way(a[0], a[1], a[2], a[3], a[4], a[5]);
-            case "wayOf": return x.wayOf(a[0], a[1]);
-            case "applies": return x.applies(a[0], a[1], a[2], a[3], a[4]);
-            case "tie": return x.tie(a[0], a[1], a[2]);
-            case "call": return x.call(a[0], a[1], a[2], a[3]);
-            case "trace": return x.trace(a[0]);
-            case "judge": return x.judge(a[0], a[1], a[2], a[3]);
-            case "days": return x.days(a[0]);
-            case "seed": return x.seed(a[0]);
-            case "image": return x.image();
-            case "restore": return x.restore();
-            default: return x.status(a[0]);
+    private static Map<String, Method> methodsOf(Class<?> all) {
+        Map<String, Method> methods = new HashMap<>();
+        for (Method method : all.getDeclaredMethods()) {
+            if (!Modifier.isPrivate(method.getModifiers())) {
+                methods.put(method.getName(), method);
+            }
         }
+        return methods;
     }
 
-    private long onModel(String name, int[] a, long v) {
-        Model x = model;
-        switch (name) {
-            case "row": return x.row(a[0], a[1], a[2]);
-            case "set": return x.set(a[0], a[1], v);
-            case "copy": return x.copy(a[0], a[1], a[2], a[3], a[4]);
-            case "element": return x.element(a[0], a[1]);
-            case "show": return x.show(a[0], a[1]);
-            case "holds": return x.holds(a[0]);
-            case "says": return x.says(a[0], a[1]);
-            case "read": return x.read(a[0]);
-            case "fault": return x.fault();
-            case "make": return x.make(a[0], a[1], a[2], a[3], a[4]);
-            case "wouldBe": return x.wouldBe(a[0], a[1], a[2], a[3], a[4]);
-            case "value": return x.value(a[0], a[1], a[2]);
-            case "method": return x.method(a[0], a[1], a[2], a[3]);
-            case "remove": return x.remove(a[0], a[1]);
-            case "objectOf": return x.objectOf(a[0], a[1]);
-            case "order": return x.order(a[0], a[1]);
-            case "distance": return x.distance(a[0], a[1]);
-            case "where": return x.where(a[0], a[1]);
-            case "hidden": return x.hidden(a[0], a[1]);
-            case "slotOf": return x.slotOf(a[0], a[1], a[2]);
-            case "send": return x.send(a[0], a[1], a[2]);
-            case "given": return x.given();
-            case "trial": return x.trial(a[0], a[1], a[2], a[3]);
-            case "way": return x.way(a[0], a[1], a[2], a[3], a[4], a[5]);
-            case "wayOf": return x.wayOf(a[0], a[1]);
-            case "applies": return x.applies(a[0], a[1], a[2], a[3], a[4]);
-            case "tie": return x.tie(a[0], a[1], a[2]);
-            case "call": return x.call(a[0], a[1], a[2], a[3]);
-            case "trace": return x.trace(a[0]);
-            case "judge": return x.judge(a[0], a[1], a[2], a[3]);
-            case "days": return x.days(a[0]);
-            case "seed": return x.seed(a[0]);
-            case "image": return x.image();
-            case "restore": return x.restore();
-            default: return x.status(a[0]);
+    /** The arguments are ints; set() has v behind them. */
+    private static long answer(Map<String, Method> methods, Object x, String name, int[] a, long v) {
+        Object[] given = new Object[methods.get(name).getParameterCount()];
+        for (int i = 0; i < given.length; i++) {
+            given[i] = i < a.length ? (Object) a[i] : (Object) v;
+        }
+        try {
+            return ((Number) methods.get(name).invoke(x, given)).longValue();
+        } catch (InvocationTargetException e) {
+            throw new IllegalStateException(e.getCause());
+        } catch (IllegalAccessException e) {
+            throw new IllegalStateException(e);
         }
     }
 
@@ -116,13 +79,13 @@ public final class RandomRunsTest {
             return 0;
         }
         calls++;
-        long want = onModel(name, a, v);
+        long want = answer(ON_MODEL, model, name, a, v);
         long got;
         String call = "run " + run + ", call " + calls + ": " + name + Arrays.toString(a) + " " + v;
         try {
-            got = onProgram(name, a, v);
+            got = answer(ON_PROGRAM, program, name, a, v);
         } catch (RuntimeException e) {
-            System.out.println(call + " threw " + e);
+            System.out.println(call + ": " + e);
             got = want + 1;
         }
         Due.due(call, got, want);
@@ -340,9 +303,97 @@ public final class RandomRunsTest {
         lookAround(CALLS);
     }
 
+    /** Few OBJECTS, most of them in one line, and many METHODS and WAYS of GENERIC 0 that meet. */
+    private void crowd() {
+        int objects = 1 + random.nextInt(4);
+        for (int o = 0; o < objects; o++) {
+            both("make", 0, random.nextInt(8) == 0 ? FIRM : PLAIN, o == 0 ? 0 : 1, o - 1, 0, 0);
+            for (int slot = 0; slot < 4; slot++) {
+                crowdSlot(o, slot);
+            }
+        }
+        int ways = 4 + random.nextInt(24);
+        for (int i = 0; i < ways; i++) {
+            crowdWay(objects);
+        }
+    }
+
+    private void crowdSlot(int o, int slot) {
+        int what = random.nextInt(8);
+        if (what == 0) {
+            both("value", 0, o, slot, x());
+        } else if (what < 7) {
+            both("method", 0, o, slot, random.nextInt(10), k());
+        }
+    }
+
+    /** MAIN and AROUND ones as a rule have a NEXT; of the others most would FAIL without. */
+    private void crowdWay(int objects) {
+        int sort = SORTS[random.nextInt(SORTS.length)];
+        boolean goesOn = sort == MAIN || sort == AROUND;
+        int function = goesOn ? GOING_ON[random.nextInt(GOING_ON.length)] : ALONE[random.nextInt(ALONE.length)];
+        if (random.nextInt(8) == 0) {
+            function = random.nextInt(10);
+        }
+        both("way", 0, 0, random.nextInt(objects), random.nextInt(objects), sort, function, k());
+    }
+
+    private void liveCrowded() {
+        crowd();
+        while (calls < CALLS) {
+            int objects = model.status(0);
+            int o = random.nextInt(objects);
+            int before = calls;
+            switch (random.nextInt(12)) {
+                case 0:
+                    both("send", 0, o, random.nextInt(4), x());
+                    break;
+                case 1:
+                    both("trial", 0, o, random.nextInt(4), x(), random.nextInt(2));
+                    break;
+                case 2:
+                    judgeTable();
+                    break;
+                case 3:
+                    both("days", 0, 1 + random.nextInt(40));
+                    break;
+                case 4:
+                    crowdSlot(o, random.nextInt(4));
+                    break;
+                case 5:
+                    both(random.nextInt(3) == 0 ? "image" : "restore", 0);
+                    break;
+                case 6:
+                    crowdWay(objects);
+                    break;
+                default:
+                    both("call", 0, 0, o, random.nextInt(objects), x());
+                    lookAtTrace();
+                    break;
+            }
+            both("given", 0);
+            both("status", 0, 6);
+            both("objectOf", 0, o, 5);
+            lookAround(Math.min(CALLS, calls + (calls - before) / 4));
+        }
+    }
+
+    private void lookAtTrace() {
+        both("status", 0, 5);
+        int ran = Math.min(model.status(5), 31);
+        for (int i = random.nextInt(4); i < ran; i += 1 + random.nextInt(4)) {
+            both("trace", 0, i);
+        }
+    }
+
     public static void main(String[] args) {
         for (int run = 0; run < RUNS && Due.wrongSoFar() == 0; run++) {
-            new RandomRunsTest(run).live();
+            RandomRunsTest each = new RandomRunsTest(run);
+            if (each.crowded) {
+                each.liveCrowded();
+            } else {
+                each.live();
+            }
         }
         Due.end("RandomRunsTest");
     }
